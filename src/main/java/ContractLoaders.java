@@ -1,5 +1,3 @@
-import java.util.Arrays;
-
 /** The face: it looks at the numbers of each call, the library and the machine behind it do the work. */
 public final class ContractLoaders {
     public static final int BAD = -1, FULL = -2, NOT = -3;
@@ -27,6 +25,9 @@ public final class ContractLoaders {
     private static final int MOST_MAKING = NAMES + 2;
     /** A bit for each LOADER and NAME. */
     private static final int BELOW_WORDS = (LOADERS * NAMES + 63) / 64;
+
+    /** The least long; all the other bits are the greatest one. */
+    private static final long SIGN_BIT = 1L << 63;
 
     private static final int BYTES = 0, INTS = 1, DOUBLES = 3;
 
@@ -602,8 +603,10 @@ public final class ContractLoaders {
         void shift(int first, int i, int n) {
             System.arraycopy(numbers, first + i, numbers, first, n);
             System.arraycopy(doubles, first + i, doubles, first, n);
-            Arrays.fill(numbers, first + n, first + PLACES, 0L);
-            Arrays.fill(doubles, first + n, first + PLACES, 0.0);
+            for (int p = n; p < PLACES; p++) {
+                numbers[first + p] = 0L;
+                doubles[first + p] = 0.0;
+            }
         }
 
         void add(int lane, int cell, int b) {
@@ -641,7 +644,7 @@ public final class ContractLoaders {
             if (v == 0L) {
                 return 0L;
             }
-            return v > 0L ? Long.MAX_VALUE : Long.MIN_VALUE;
+            return v > 0L ? ~SIGN_BIT : SIGN_BIT;
         }
 
         long shown(int lane, int cell) {
@@ -667,7 +670,7 @@ public final class ContractLoaders {
                 exponent++;
             }
             long fraction = (long) (size * 4503599627370496.0) - (1L << 52);
-            long sign = d < 0.0 ? Long.MIN_VALUE : 0L;
+            long sign = d < 0.0 ? SIGN_BIT : 0L;
             return sign | exponent << 52 | fraction;
         }
     }

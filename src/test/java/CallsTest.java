@@ -23,6 +23,7 @@ final class CallsTest {
         stepsEnd();
         manyFrames();
         callThatFindsNone();
+        nothingStaysOfEndedCalls();
         wrongNumbers();
         CHECK.end();
     }
@@ -445,6 +446,32 @@ final class CallsTest {
         CHECK.due("calls began", x.count(6), 2);
         CHECK.due("value() stays", x.value(), 2);
         CHECK.due("nothing is in work", x.release(0), 0);
+    }
+
+    /** Neither a CALL that failed under a TRY nor the TRY of one that ended counts for the next. */
+    private static void nothingStaysOfEndedCalls() {
+        ContractLoaders x = new ContractLoaders();
+        x.offer(0, 10, x.file(10, -1, true, false, 0));
+        int f = file(x, 5, -1, INTS);
+        x.under(f, 10);
+        acts(x, f, 0, TRY, 0, 0, CALL, 0, 31, TRY, 0, 0, CALL, 0, 31);
+        x.offer(0, 5, f);
+        x.deploy(0, 5);
+        for (int n = 1; n <= 10; n++) {
+            dueCall(x, 5, 14);
+            CHECK.due("in work at most", x.count(7), 2);
+            CHECK.due("calls began", x.count(6), 3 * n);
+        }
+        ContractLoaders y = new ContractLoaders();
+        y.offer(0, 10, y.file(10, -1, true, false, 0));
+        int g = file(y, 5, -1, INTS);
+        y.under(g, 10);
+        acts(y, g, 0, CALL, 0, 31, CALL, 0, 32);
+        acts(y, g, 1, TRY, 0, 0, PLUS, 0, 1);
+        acts(y, g, 2, PLUS, 0, 1, FAIL, 3, 0);
+        y.offer(0, 5, g);
+        y.deploy(0, 5);
+        CHECK.due("an earlier call's TRY holds nothing", y.call(0, 0, 5), -43);
     }
 
     private static void wrongNumbers() {

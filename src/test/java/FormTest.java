@@ -15,7 +15,7 @@ final class FormTest {
             "below", "deploy", "upgrade", "move", "call", "value", "place", "told", "count");
     private static final String[] NEVER = {"catch", "finally", "synchronized", "assert ", "->", "::", "Double.", "Float.",
         "Exact(", "package ", "static {", "Object ", "hashCode", "toString", ".equals(", "System.out", "System.nano",
-        "System.current", "Random", "Thread"};
+        "System.current", "Random", "Thread", "import ", "_VALUE"};
 
     public static void main(String[] args) throws IOException {
         face();
@@ -81,11 +81,6 @@ final class FormTest {
         String code = Files.readString(Path.of("src/main/java/ContractLoaders.java"));
         for (String word : NEVER) {
             CHECK.due("nowhere '" + word + "'", code.indexOf(word), -1);
-        }
-        for (String line : code.split("\n")) {
-            if (line.startsWith("import ")) {
-                CHECK.due(line, line.equals("import java.util.Arrays;") ? 1 : 0, 1);
-            }
         }
         CHECK.due("signs are plain", code.chars().allMatch(c -> c == '\n' || c >= 32 && c < 127) ? 1 : 0, 1);
     }
