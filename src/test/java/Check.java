@@ -1,6 +1,7 @@
 /** Counts what is not as due, and ends the test's program by that. */
 final class Check {
     private final String test;
+    private String part = "";
     private int asked;
     private int wrong;
 
@@ -8,11 +9,16 @@ final class Check {
         this.test = test;
     }
 
+    /** Names the part of the test that what is asked now belongs to. */
+    void inside(String name) {
+        part = name.isEmpty() ? "" : "." + name;
+    }
+
     void due(String call, long got, long want) {
         asked++;
         if (got != want) {
             wrong++;
-            System.out.println(test + ": " + call + " answered " + got + ", due is " + want);
+            System.out.println(test + part + ": " + call + " answered " + got + ", due is " + want);
         }
     }
 

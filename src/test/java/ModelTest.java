@@ -1,9 +1,11 @@
 import java.util.Random;
 
-/** Runs of calls drawn by a fixed seed, each answered by the class and by Model. */
+/** Runs of at most 512 calls drawn by a fixed seed, each answered by the class and by Model. */
 final class ModelTest {
-    private static final int RUNS = 6000;
+    private static final int RUNS = 24000;
     private static final int CALLS = 512;
+    /** What stays for the rows and the counts at a run's end, and for the call that comes before them. */
+    private static final int CALLS_KEPT = 60;
     private static final Check CHECK = new Check("ModelTest");
 
     private final Random random;
@@ -13,6 +15,7 @@ final class ModelTest {
     /** How wide numbers are drawn in this run: few NAMES meet often, many make long chains. */
     private final int names;
     private final boolean tidy;
+    private int asked;
 
     private static final int[] SEEN = new int[64];
 
@@ -37,16 +40,20 @@ final class ModelTest {
 
     private void go() {
         if (run % 3 == 0) tower();
-        int setUp = 60 + random.nextInt(160);
-        for (int n = 0; n < setUp; n++) {
+        int setUp = Math.min(asked + 60 + random.nextInt(160), CALLS - CALLS_KEPT);
+        while (asked < setUp) {
             setUpCall();
         }
-        for (int n = setUp; n < CALLS - 14; n++) {
+        while (asked < CALLS - CALLS_KEPT) {
             anyCall();
         }
         for (int what = 0; what < 8; what++) {
-            CHECK.due(where("count(" + what + ")"), x.count(what), m.count(what));
+            same("count(" + what + ")", x.count(what), m.count(what));
         }
+        for (int n = 0; n < m.accounts.size(); n++) {
+            for (int i = 0; i < 4; i++) place(n, i);
+        }
+        CHECK.due(where("asks no more than the document promises: " + asked), asked <= CALLS ? 1 : 0, 1);
     }
 
     private String where(String call) {
@@ -94,13 +101,12 @@ final class ModelTest {
         int lane = random.nextInt(4);
         for (int l = random.nextInt(3); l > 0; l--) loader();
         int height = 10 + random.nextInt(7);
-        m.file(29, -1, true, false, 0);
-        x.file(29, -1, true, false, 0);
+        same("file(29)", x.file(29, -1, true, false, 0), m.file(29, -1, true, false, 0));
         int top = random.nextInt(loaders());
         same("offer(0, 29, 0)", x.offer(0, 29, 0), m.offer(0, 29, 0));
         for (int n = 0; n < height; n++) {
             int f = m.file(5 + n, n == 0 ? -1 : 4 + n, false, false, lane);
-            x.file(5 + n, n == 0 ? -1 : 4 + n, false, false, lane);
+            same("file(" + (5 + n) + ")", x.file(5 + n, n == 0 ? -1 : 4 + n, false, false, lane), f);
             if (n == 0) same("under(" + f + ", 29)", x.under(f, 29), m.under(f, 29));
             for (int acts = random.nextInt(14); acts > 0; acts--) towerAct(f);
             same("offer(" + top + ", " + (5 + n) + ", " + f + ")", x.offer(top, 5 + n, f), m.offer(top, 5 + n, f));
@@ -228,6 +234,7 @@ final class ModelTest {
         try {
             want = m.place(c, i);
         } catch (IllegalArgumentException e) {
+            asked++;
             CHECK.dueNoPlace(x, c, i);
             return;
         }
@@ -239,12 +246,13 @@ final class ModelTest {
         long v = number();
         same("call(" + c + ", " + method + ", " + v + ")", x.call(c, method, v), m.call(c, method, v));
         same("value()", x.value(), m.value);
-        for (int n = 0; n < m.accounts.size(); n++) {
-            for (int i = 0; i < 4; i++) place(n, i);
+        for (int n = 0; n < 3; n++) {
+            place(small(Math.max(1, m.accounts.size())), small(4));
         }
     }
 
     private void same(String call, long got, long want) {
+        asked++;
         CHECK.due(where(call), got, want);
         boolean ofFailure = !call.startsWith("value") && !call.startsWith("place");
         if (ofFailure && want < -20 && want > -60) SEEN[(int) (-20 - want)]++;
